@@ -168,10 +168,11 @@ public final class RainbowHulls {
         }
         hull.build(cloud, set);
         near.findOnHull(hull, cloud.centreX, cloud.centreY);
+        near.bringToLowestTerms();
         switch (what) {
-            case 0: return near.place.x;
-            case 1: return near.place.y;
-            case 2: return near.place.lower;
+            case 0: return near.x;
+            case 1: return near.y;
+            case 2: return near.lower;
             case 3: return near.square;
             case 4: return near.squareLower;
             default: return NO_SUCH;
@@ -318,6 +319,7 @@ public final class RainbowHulls {
             return NO_SUCH;
         }
         chooser.look(cloud);
+        chooser.near.bringToLowestTerms();
         switch (what) {
             case 0: return chooser.near.square;
             case 1: return chooser.near.squareLower;
@@ -542,9 +544,8 @@ public final class RainbowHulls {
         int bc = bx * cy - by * cx;
         int ca = cx * ay - cy * ax;
         if (ab == 0 && bc == 0 && ca == 0) {
-            // All on one line with the place: only their reach along it tells.
-            return Math.min(ax, Math.min(bx, cx)) <= 0 && Math.max(ax, Math.max(bx, cx)) >= 0
-                && Math.min(ay, Math.min(by, cy)) <= 0 && Math.max(ay, Math.max(by, cy)) >= 0;
+            // All on one line with the place: two are seen from it in opposite directions, or one is there.
+            return ax * bx + ay * by <= 0 || bx * cx + by * cy <= 0 || cx * ax + cy * ay <= 0;
         }
         return ab >= 0 && bc >= 0 && ca >= 0 || ab <= 0 && bc <= 0 && ca <= 0;
     }
@@ -667,18 +668,13 @@ public final class RainbowHulls {
 
     /** The tape; reads it into a draft, so that a fault leaves all else as it was. */
     private static final class Reader {
-        // The colours' words have the colours' numbers.
-        private static final int RED = 0;
-        private static final int GREEN = 1;
-        private static final int BLUE = 2;
-        private static final int CENTRE = 3;
-        private static final int LOAD = 4;
-        private static final int NUMBER = 5;
-        private static final int SEMICOLON = 6;
-        private static final int COMMA = 7;
-        private static final int MINUS = 8;
-        private static final int STRANGE = 9;
-        private static final int END = 10;
+        private static final int WORD = 1;
+        private static final int NUMBER = 2;
+        private static final int SEMICOLON = 3;
+        private static final int COMMA = 4;
+        private static final int MINUS = 5;
+        private static final int STRANGE = 6;
+        private static final int END = 7;
         private static final int BEYOND_ALL = 1000;
 
         final byte[] tape = new byte[MOST_BYTES];
@@ -711,16 +707,24 @@ public final class RainbowHulls {
             next = 0;
             advance();
             for (int i = 0; i <= MOST_BYTES && kind != END && faultKind == 0; i++) {
-                if (kind == CENTRE) {
+                if (spells("centre")) {
                     readCentre();
-                } else if (kind == RED || kind == GREEN || kind == BLUE) {
-                    readPoints();
                 } else {
-                    refuse(1);
+                    readPoints(colourTold());
                 }
                 skip(SEMICOLON);
             }
             return faultKind == 0;
+        }
+
+        private int colourTold() {
+            if (spells("red")) {
+                return 0;
+            }
+            if (spells("green")) {
+                return 1;
+            }
+            return spells("blue") ? 2 : NONE;
         }
 
         private void readCentre() {
@@ -734,16 +738,22 @@ public final class RainbowHulls {
             draft.centreY = readCoordinate();
         }
 
-        private void readPoints() {
-            int first = draft.size;
-            int ink = kind;
-            advance();
-            readPoint(ink);
-            for (int i = 0; i <= MOST_BYTES && kind == COMMA && faultKind == 0; i++) {
-                advance();
-                readPoint(ink);
+        private void readPoints(int ink) {
+            if (ink == NONE) {
+                refuse(1);
+                return;
             }
-            if (kind == LOAD && faultKind == 0) {
+            int first = draft.size;
+            boolean more = true;
+            for (int i = 0; i <= MOST_BYTES && more; i++) {
+                // Past the colour, past a comma.
+                advance();
+                refuseBeyondLast();
+                int x = readCoordinate();
+                int y = readCoordinate();
+                more = faultKind == 0 && draft.append(x, y, ink) && kind == COMMA;
+            }
+            if (faultKind == 0 && spells("load")) {
                 advance();
                 int load = readNumber(HIGHEST_LOAD);
                 for (int point = first; point < draft.size; point++) {
@@ -752,14 +762,11 @@ public final class RainbowHulls {
             }
         }
 
-        private void readPoint(int ink) {
-            if (draft.size >= MOST_POINTS && (kind == MINUS || kind == NUMBER && value <= FARTHEST)) {
+        /** A token that is wrong in itself has the lesser fault at the same place: that is left to its reader. */
+        private void refuseBeyondLast() {
+            boolean fine = kind == MINUS || kind == NUMBER && value <= FARTHEST;
+            if (draft.size >= MOST_POINTS && fine) {
                 refuse(3);
-            }
-            int x = readCoordinate();
-            int y = readCoordinate();
-            if (faultKind == 0) {
-                draft.append(x, y, ink);
             }
         }
 
@@ -814,7 +821,7 @@ public final class RainbowHulls {
                 while (next < length && isLetter(tape[next])) {
                     next++;
                 }
-                kind = wordKind();
+                kind = WORD;
             } else if (isDigit(tape[start])) {
                 value = 0;
                 while (next < length && isDigit(tape[next])) {
@@ -828,24 +835,8 @@ public final class RainbowHulls {
             }
         }
 
-        private int wordKind() {
-            if (spells("red")) {
-                return RED;
-            }
-            if (spells("green")) {
-                return GREEN;
-            }
-            if (spells("blue")) {
-                return BLUE;
-            }
-            if (spells("centre")) {
-                return CENTRE;
-            }
-            return spells("load") ? LOAD : STRANGE;
-        }
-
         private boolean spells(String word) {
-            if (next - start != word.length() || next > length) {
+            if (kind != WORD || next - start != word.length() || next > length) {
                 return false;
             }
             for (int i = 0; i < word.length(); i++) {
@@ -894,7 +885,7 @@ public final class RainbowHulls {
         }
     }
 
-    /** The corners of a set of points, counterclockwise. */
+    /** The corners of a set of points, counterclockwise; behind the last one the first one's place stands once more. */
     private static final class Hull {
         final int[] chain = new int[2 * MOST_POINTS];
         final int[] x = new int[2 * MOST_POINTS];
@@ -918,9 +909,11 @@ public final class RainbowHulls {
                 push(cloud, sorted[i], kept);
             }
             if (found > 1) {
-                // The first corner has come again at the end of the way round.
+                // The way round has ended at the first corner.
                 size--;
             }
+            x[size] = x[0];
+            y[size] = y[0];
         }
 
         /** Of several points at one place the first stays: they come by number. */
@@ -965,15 +958,10 @@ public final class RainbowHulls {
             return (x[size - 1] - ax) * (py - ay) - (y[size - 1] - ay) * (px - ax) > 0;
         }
 
-        int after(int corner) {
-            return corner + 1 < size ? corner + 1 : 0;
-        }
-
         int doubleArea() {
             int sum = 0;
             for (int i = 0; i < size; i++) {
-                int j = after(i);
-                sum += x[i] * y[j] - y[i] * x[j];
+                sum += x[i] * y[i + 1] - y[i] * x[i + 1];
             }
             return sum;
         }
@@ -982,34 +970,33 @@ public final class RainbowHulls {
         int wholePlaces() {
             int rim = 0;
             for (int i = 0; i < size; i++) {
-                int j = after(i);
-                rim += (int) gcd(x[j] - x[i], y[j] - y[i]);
+                rim += (int) gcd(x[i + 1] - x[i], y[i + 1] - y[i]);
             }
             return (doubleArea() + rim) / 2 + 1;
         }
 
         /** 2 inside, 1 on the rim, 0 outside, of the place px, py by a lower number above 0. */
         int sideOf(long px, long py, long lower) {
-            boolean onRim = size < 3;
+            if (size < 1) {
+                return 0;
+            }
+            boolean onRim = false;
             for (int i = 0; i < size; i++) {
-                int j = after(i);
-                long turn = (x[j] - x[i]) * (py - y[i] * lower) - (y[j] - y[i]) * (px - x[i] * lower);
+                long turn = (x[i + 1] - x[i]) * (py - y[i] * lower) - (y[i + 1] - y[i]) * (px - x[i] * lower);
                 if (turn < 0) {
                     return 0;
                 }
                 onRim = onRim || turn == 0;
             }
-            if (size < 3 && !isInBox(px, py, lower)) {
-                return 0;
+            if (size >= 3) {
+                return onRim ? 1 : 2;
             }
-            return onRim ? 1 : 2;
-        }
-
-        /** For one corner or two, the first being the least by x. */
-        private boolean isInBox(long px, long py, long lower) {
-            int last = size - 1;
-            return last >= 0 && px >= x[0] * lower && px <= x[last] * lower
-                && py >= Math.min(y[0], y[last]) * lower && py <= Math.max(y[0], y[last]) * lower;
+            // On the line of its ends: they are seen from it in opposite directions, or it is there.
+            long x0 = x[0] * lower - px;
+            long y0 = y[0] * lower - py;
+            long x1 = x[size - 1] * lower - px;
+            long y1 = y[size - 1] * lower - py;
+            return x0 * x1 + y0 * y1 <= 0 ? 1 : 0;
         }
 
         long leastAlong(long a, long b) {
@@ -1023,70 +1010,88 @@ public final class RainbowHulls {
 
     /** The nearest of all places that were offered, seen from one place. */
     private static final class Near {
-        final Place place = new Place();
+        long x;
+        long y;
+        long lower = 1;
         long square;
-        long squareLower;
+        long squareLower = 1;
         private int fromX;
         private int fromY;
 
-        void start(int x, int y) {
-            fromX = x;
-            fromY = y;
+        void start(int px, int py) {
+            fromX = px;
+            fromY = py;
             square = 0;
             squareLower = 0;
         }
 
-        void findOnHull(Hull hull, int x, int y) {
-            start(x, y);
-            if (hull.sideOf(x, y, 1) > 0) {
-                offer(x, y, 1);
+        void findOnHull(Hull hull, int px, int py) {
+            start(px, py);
+            if (hull.sideOf(px, py, 1) > 0) {
+                offer(px, py, 1);
                 return;
             }
             for (int i = 0; i < hull.size; i++) {
-                int j = hull.after(i);
-                offerEdge(hull.x[i], hull.y[i], hull.x[j], hull.y[j]);
+                offerEdge(hull.x[i], hull.y[i], hull.x[i + 1], hull.y[i + 1]);
             }
         }
 
         /** True if its nearest place is nearer than all that were offered before. */
         boolean offerEdge(int ax, int ay, int bx, int by) {
-            long wayX = bx - ax;
-            long wayY = by - ay;
-            long full = wayX * wayX + wayY * wayY;
-            long along = wayX * (fromX - ax) + wayY * (fromY - ay);
+            long edgeX = bx - ax;
+            long edgeY = by - ay;
+            long full = edgeX * edgeX + edgeY * edgeY;
+            long along = edgeX * (fromX - ax) + edgeY * (fromY - ay);
             if (along <= 0) {
                 return offer(ax, ay, 1);
             }
             if (along >= full) {
                 return offer(bx, by, 1);
             }
-            return offer(ax * full + along * wayX, ay * full + along * wayY, full);
+            return offer(ax * full + along * edgeX, ay * full + along * edgeY, full);
         }
 
-        boolean offer(long x, long y, long lower) {
-            long dx = x - fromX * lower;
-            long dy = y - fromY * lower;
+        /** Lower numbers are 3200 at most, so no product here leaves a long, lowest terms or not. */
+        boolean offer(long px, long py, long by) {
+            long dx = px - fromX * by;
+            long dy = py - fromY * by;
             long up = dx * dx + dy * dy;
-            long down = lower * lower;
-            if (squareLower != 0 && up * squareLower >= square * down) {
+            if (squareLower != 0 && up * squareLower >= square * by * by) {
                 return false;
             }
-            long common = gcd(up, down);
-            if (common == 0) {
-                return false;
-            }
-            square = up / common;
-            squareLower = down / common;
-            place.put(x, y, lower);
+            x = px;
+            y = py;
+            lower = by;
+            square = up;
+            squareLower = by * by;
             return true;
         }
 
+        void bringToLowestTerms() {
+            long common = gcd(gcd(x, y), lower);
+            if (common != 0) {
+                x /= common;
+                y /= common;
+                lower /= common;
+            }
+            common = gcd(square, squareLower);
+            if (common != 0) {
+                square /= common;
+                squareLower /= common;
+            }
+        }
+
+        boolean isAt(int px, int py) {
+            return px * lower == x && py * lower == y;
+        }
+
+        /** The way to it, times its lower number. */
         long wayX() {
-            return place.x - fromX * place.lower;
+            return x - fromX * lower;
         }
 
         long wayY() {
-            return place.y - fromY * place.lower;
+            return y - fromY * lower;
         }
     }
 
@@ -1415,8 +1420,8 @@ public final class RainbowHulls {
                     least = product;
                 }
             }
-            // The way is the nearest place's, times its lower number: so is the product on the left, once more.
-            if (least * near.place.lower >= wayX * wayX + wayY * wayY) {
+            // Both sides by the square of the nearest place's lower number, which the way is times already.
+            if (least * near.lower >= wayX * wayX + wayY * wayY) {
                 return false;
             }
             chosen[goes] = best;
@@ -1425,12 +1430,9 @@ public final class RainbowHulls {
         }
 
         private int colourThatGoes(Cloud cloud) {
-            if (near.place.lower == 1) {
-                for (int colour = 0; colour < COLOURS; colour++) {
-                    int point = chosen[colour];
-                    if (cloud.x[point] == near.place.x && cloud.y[point] == near.place.y) {
-                        return colour == 0 ? 1 : 0;
-                    }
+            for (int colour = 0; colour < COLOURS; colour++) {
+                if (near.isAt(cloud.x[chosen[colour]], cloud.y[chosen[colour]])) {
+                    return colour == 0 ? 1 : 0;
                 }
             }
             return COLOURS - 1 - side;
@@ -1582,29 +1584,20 @@ public final class RainbowHulls {
         private void offerCrossings(Hull one, Hull two) {
             for (int i = 0; i < one.size; i++) {
                 for (int j = 0; j < two.size; j++) {
-                    offerCrossing(one, i, two, j);
+                    long ux = one.x[i + 1] - one.x[i];
+                    long uy = one.y[i + 1] - one.y[i];
+                    long vx = two.x[j + 1] - two.x[j];
+                    long vy = two.y[j + 1] - two.y[j];
+                    long lower = ux * vy - uy * vx;
+                    long along = (two.x[j] - one.x[i]) * vy - (two.y[j] - one.y[i]) * vx;
+                    if (lower < 0) {
+                        lower = -lower;
+                        along = -along;
+                    }
+                    if (lower > 0 && along >= 0 && along <= lower) {
+                        offer(one.x[i] * lower + along * ux, one.y[i] * lower + along * uy, lower);
+                    }
                 }
-            }
-        }
-
-        private void offerCrossing(Hull one, int i, Hull two, int j) {
-            int oneEnd = one.after(i);
-            int twoEnd = two.after(j);
-            long ux = one.x[oneEnd] - one.x[i];
-            long uy = one.y[oneEnd] - one.y[i];
-            long vx = two.x[twoEnd] - two.x[j];
-            long vy = two.y[twoEnd] - two.y[j];
-            long lower = cross(ux, uy, vx, vy);
-            if (lower == 0) {
-                return;
-            }
-            long along = cross(two.x[j] - one.x[i], two.y[j] - one.y[i], vx, vy);
-            if (lower < 0) {
-                lower = -lower;
-                along = -along;
-            }
-            if (along >= 0 && along <= lower) {
-                offer(one.x[i] * lower + along * ux, one.y[i] * lower + along * uy, lower);
             }
         }
 
@@ -1636,11 +1629,14 @@ public final class RainbowHulls {
                 offerGap(1);
             }
             long common = gcd(gapX, gapY);
-            if (gapLower == 0 || common == 0) {
+            long squareCommon = gcd(gapSquare, gapLower);
+            if (common == 0 || squareCommon == 0) {
                 return false;
             }
             gapX /= common;
             gapY /= common;
+            gapSquare /= squareCommon;
+            gapLower /= squareCommon;
             return true;
         }
 

@@ -680,10 +680,15 @@ public final class OracleTest {
         int n = random.nextInt(most + 1);
         int[] reaches = {1, 2, 3, 5, 10, 20};
         int reach = reaches[random.nextInt(reaches.length)];
-        boolean flat = random.nextInt(6) == 0;
+        boolean flat = random.nextInt(4) == 0;
+        int tiltX = pick(random, -2, 2);
+        int tiltY = pick(random, -2, 2);
+        int least = Math.max(1, reach / 2);
         for (int i = 0; i < n; i++) {
-            int px = pick(random, -reach, reach);
-            int py = flat ? px / 2 : pick(random, -reach, reach);
+            int t = pick(random, -least, least);
+            boolean off = !flat || random.nextInt(8) == 0;
+            int px = off ? pick(random, -reach, reach) : t * tiltX;
+            int py = off ? pick(random, -reach, reach) : t * tiltY;
             int colour = random.nextInt(3);
             due("adds", x.adds(px, py, colour), i);
             points.add(new int[] {px, py, colour, 0});
@@ -696,8 +701,9 @@ public final class OracleTest {
             points.get(p)[3] = load;
         }
         int far = Math.min(20, reach + random.nextInt(3));
-        cx = pick(random, -far, far);
-        cy = pick(random, -far, far);
+        cx = flat ? pick(random, -least, least) * tiltX : pick(random, -far, far);
+        cy = flat ? tiltX == 0 ? pick(random, -far, far) : cx * tiltY / tiltX : pick(random, -far, far);
+        cy = Math.max(-20, Math.min(20, cy));
         due("centres", x.centres(cx, cy), cx == 0 && cy == 0 ? 0 : 1);
         StringBuilder text = new StringBuilder("centre " + cx + " " + cy + ", points");
         for (int[] p : points) {
@@ -1274,7 +1280,7 @@ public final class OracleTest {
 
     public static void main(String[] args) {
         long seed = args.length > 0 ? Long.parseLong(args[0]) : 1;
-        int rounds = args.length > 1 ? Integer.parseInt(args[1]) : 250;
+        int rounds = args.length > 1 ? Integer.parseInt(args[1]) : 400;
         Random random = new Random(seed);
         for (int round = 0; round < rounds; round++) {
             RainbowHulls x = new RainbowHulls();

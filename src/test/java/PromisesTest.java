@@ -161,7 +161,18 @@ public final class PromisesTest {
         faulty("red 1;", 1, 5);
         faulty("red 1 1 1;", 1, 8);
         faulty("redd 1 1;", 1, 0);
+        faulty("redz 1 1;", 1, 0);
+        faulty("bed 1 1;", 1, 0);
+        faulty("rod 1 1;", 1, 0);
+        faulty("zentre 1 1;", 1, 0);
+        faulty("red 1 1 toad 1;", 1, 8);
+        faulty("re d 1 1;", 1, 0);
         faulty("Red 1 1;", 1, 0);
+        faulty("red 1 1{;", 1, 7);
+        faulty("red 1 1`;", 1, 7);
+        faulty("red 1 1/;", 1, 7);
+        faulty("red 1 1:;", 1, 7);
+        faulty("red 1 2 0 ;", 1, 8);
         faulty("red 1 1.", 1, 7);
         faulty("red\t1 1;", 1, 3);
         faulty("red 1 1\r;", 1, 7);
@@ -484,6 +495,7 @@ public final class PromisesTest {
         promise = 22;
         due("left(0), no loads", x.left(0), -2);
         reductions();
+        tightest();
         manyLoads();
     }
 
@@ -516,6 +528,25 @@ public final class PromisesTest {
         due("left(2)", y.left(2), -2);
         due("left(-1)", y.left(-1), -2);
         due("left(max)", y.left(Integer.MAX_VALUE), -2);
+    }
+
+    private static void tightest() {
+        // The tie -1, 1, -1, 1: the second has less than the fourth, 2 of it are taken from each.
+        RainbowHulls x = of("red 0 0 load 5; red 4 0 load 2; red 4 4 load 5; red 0 4 load 7;");
+        promise = 22;
+        due("left(1)", x.left(1), 0b1101);
+        promise = 21;
+        due("weight(0, 1, 0)", x.weight(0, 1, 0), 7);
+        due("weight(0, 1, 1)", x.weight(0, 1, 1), 19);
+        due("weight(2, 1, 0)", x.weight(2, 1, 0), 7);
+        due("weight(3, 1, 0)", x.weight(3, 1, 0), 5);
+        // Both at once.
+        x.loads(3, 2);
+        promise = 22;
+        due("left(1), both", x.left(1), 0b101);
+        promise = 21;
+        due("weight(0, 1, 0), both", x.weight(0, 1, 0), 1);
+        due("weight(0, 1, 1), both", x.weight(0, 1, 1), 2);
     }
 
     private static void manyLoads() {
@@ -584,12 +615,33 @@ public final class PromisesTest {
         due("mixture(0, 2, 4, 1), one", x.mixture(0, 2, 4, 1), 1);
         due("mixture(0, 2, 4, 0), one", x.mixture(0, 2, 4, 0), 0);
         due("mixture(0, 2, 4, 3), one", x.mixture(0, 2, 4, 3), 1);
+        mixturesOnOneLine();
         x.paints(5, 0);
         x.paints(4, 0);
         promise = 23;
         due("rainbows(), no blue", x.rainbows(), 0);
         promise = 24;
         due("rainbow(0, 2), no blue", x.rainbow(0, 2), -1);
+    }
+
+    private static void mixtureIs(String text, long red, long green, long blue, long lower) {
+        RainbowHulls x = of(text);
+        due("mixture(0, 1, 2, 0) of " + text, x.mixture(0, 1, 2, 0), red);
+        due("mixture(0, 1, 2, 1) of " + text, x.mixture(0, 1, 2, 1), green);
+        due("mixture(0, 1, 2, 2) of " + text, x.mixture(0, 1, 2, 2), blue);
+        due("mixture(0, 1, 2, 3) of " + text, x.mixture(0, 1, 2, 3), lower);
+    }
+
+    private static void mixturesOnOneLine() {
+        mixtureIs("red -2 0; green 1 0; blue 4 0;", 1, 2, 0, 3);
+        mixtureIs("red 0 2; green 0 -1; blue 0 -5;", 1, 2, 0, 3);
+        mixtureIs("red 1 1; green 2 2; blue -1 -1;", 1, 0, 1, 2);
+        mixtureIs("red 0 0; green 1 0; blue -1 0;", 1, 0, 0, 1);
+        mixtureIs("red 3 0; green 0 0; blue 0 0;", 0, 1, 0, 1);
+        mixtureIs("red 3 0; green -3 0; blue 0 0;", 0, 0, 1, 1);
+        mixtureIs("red 1 5; green -1 0; blue 3 0;", 0, 3, 1, 4);
+        mixtureIs("red 6 8; green 7 8; blue -2 4; centre 6 8;", 1, 0, 0, 1);
+        mixtureIs("red 1 0; green 2 0; blue 3 0;", NO, NO, NO, NO);
     }
 
     private static void exchanges() {
@@ -831,6 +883,9 @@ public final class PromisesTest {
         due("deepest(0), the least", y.deepest(0), -20);
         due("deepest(1), the least", y.deepest(1), 20);
         due("deepest(2), the least", y.deepest(2), 1);
+        RainbowHulls edge = of("red 20 20;");
+        due("deepest(0), at the edge", edge.deepest(0), 20);
+        due("deepest(1), at the edge", edge.deepest(1), 20);
         RainbowHulls z = of("red 3 7, 3 -7;");
         due("deepest(1), the least by y", z.deepest(1), -7);
         frees(x);
