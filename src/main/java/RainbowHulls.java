@@ -1000,8 +1000,8 @@ public final class RainbowHulls {
         }
 
         long leastAlong(long a, long b) {
-            long least = Long.MAX_VALUE;
-            for (int i = 0; i < size; i++) {
+            long least = a * x[0] + b * y[0];
+            for (int i = 1; i < size; i++) {
                 least = Math.min(least, a * x[i] + b * y[i]);
             }
             return least;
@@ -1411,17 +1411,17 @@ public final class RainbowHulls {
             int goes = colourThatGoes(cloud);
             long wayX = near.wayX();
             long wayY = near.wayY();
-            int best = chosen[goes];
-            long least = Long.MAX_VALUE;
+            int best = NONE;
+            long least = 0;
             for (int point = 0; point < cloud.size; point++) {
                 long product = (cloud.x[point] - cloud.centreX) * wayX + (cloud.y[point] - cloud.centreY) * wayY;
-                if (cloud.colour[point] == goes && product < least) {
+                if (cloud.colour[point] == goes && (best == NONE || product < least)) {
                     best = point;
                     least = product;
                 }
             }
             // Both sides by the square of the nearest place's lower number, which the way is times already.
-            if (least * near.lower >= wayX * wayX + wayY * wayY) {
+            if (best == NONE || least * near.lower >= wayX * wayX + wayY * wayY) {
                 return false;
             }
             chosen[goes] = best;
