@@ -1314,7 +1314,7 @@ public final class RainbowHulls {
             chosen[2] = blue;
         }
 
-        private int following(Cloud cloud, int colour, int point) {
+        private static int following(Cloud cloud, int colour, int point) {
             int next = point + 1;
             while (next < cloud.size && cloud.colour[next] != colour) {
                 next++;
@@ -1374,7 +1374,7 @@ public final class RainbowHulls {
             return false;
         }
 
-        /** The nearest place of the chosen ones; the side is the first of red green, red blue, green blue that has it. */
+        /** The nearest place; its side is the first of red green, red blue, green blue that has it. */
         void look(Cloud cloud) {
             near.start(cloud.centreX, cloud.centreY);
             if (chosenHold(cloud, cloud.centreX, cloud.centreY)) {
