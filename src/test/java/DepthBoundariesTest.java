@@ -111,6 +111,15 @@ public final class DepthBoundariesTest {
         }
     }
 
+    static void promise37BesideASideAndOnItsLine() {
+        RainbowHulls wide = Cases.of("red 0 0; green 4 0; blue -9 4;");
+        Cases.dueAll("triangles(-1, 0, what)", w -> wide.triangles(-1, 0, w), 0, 0);
+        Cases.dueAll("triangles(-1, 1, what)", w -> wide.triangles(-1, 1, w), 1, 1);
+        RainbowHulls thin = Cases.of("red 0 0; green 2 1; blue 0 9;");
+        Cases.dueAll("triangles(1, 0, what)", w -> thin.triangles(1, 0, w), 0, 0);
+        Cases.dueAll("triangles(1, 1, what)", w -> thin.triangles(1, 1, w), 1, 1);
+    }
+
     static void promise37WithoutAnArea() {
         RainbowHulls x = Cases.of("red 1 1; green 3 3; blue 5 5;");
         Cases.dueAll("triangles(x, x, 0)", a -> x.triangles(a, a, 0), 0, 1, 1, 1, 1, 1, 0);
@@ -176,6 +185,18 @@ public final class DepthBoundariesTest {
         deepestIs("red 0 0, 3 0, 3 3, 0 3;", 0, 0, 1);
     }
 
+    static void promise38BehindAChange() {
+        RainbowHulls x = Cases.of("red 5 5, 5 5, 5 5;");
+        Cases.dueAll("three", x::deepest, 5, 5, 3);
+        x.moves(0, -5, 5);
+        Cases.dueAll("two", x::deepest, 5, 5, 2);
+        x.removes(1);
+        Cases.dueAll("one here, one there", x::deepest, -5, 5, 1);
+        x.adds(7, 7, 1);
+        x.adds(7, 7, 1);
+        Cases.dueAll("two elsewhere", x::deepest, 7, 7, 2);
+    }
+
     static void promise38TheGreatest() {
         Cases.dueAll("all 24 at one place", allAt("-3 2")::deepest, -3, 2, 24);
         RainbowHulls x = allAt("-3 2");
@@ -222,6 +243,8 @@ public final class DepthBoundariesTest {
         // Two neighbours must go.
         freesIs("red 0 0, 4 0, 4 4, 0 4; centre 2 2;", 2, 0b0011);
         freesIs("red 0 0, 4 4, 4 0, 0 4; centre 2 2;", 2, 0b0101);
+        freesIs("red 0 0, 0 4, 4 4, 4 0; centre 2 2;", 2, 0b0011);
+        freesIs("red 4 4, 0 0, 0 4, 4 0; centre 2 2;", 2, 0b0101);
         freesIs("red 0 0, 4 0, 4 4, 0 4; centre 1 1;", 1, 0b0001);
         freesIs("red 0 0, 4 0, 4 4, 0 4; centre 3 3;", 1, 0b0100);
         // One at the centre, and the lesser of the two at its sides.

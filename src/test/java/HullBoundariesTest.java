@@ -77,6 +77,27 @@ public final class HullBoundariesTest {
         Cases.due("corner(all, 12)", x.corner(Cases.ALL_24, 12), -1);
     }
 
+    /** Twenty-four corners, clockwise from (-8, 1). */
+    private static RainbowHulls ring() {
+        return Cases.of("red -8 1, -7 4, -6 6, -5 7, -3 8, 0 9, 1 9, 4 8, 6 7, 7 6, 8 4, 9 1; blue 9 0, 8 -3, 7 -5,"
+            + " 6 -6, 4 -7, 1 -8, 0 -8, -3 -7, -5 -6, -6 -5, -7 -3, -8 0;");
+    }
+
+    static void promise09AllOf24Corners() {
+        RainbowHulls x = ring();
+        Cases.due("corners", x.corners(Cases.ALL_24), 24);
+        for (int i = 0; i < 24; i++) {
+            Cases.due("corner " + i, x.corner(Cases.ALL_24, i), 23 - i);
+        }
+        Cases.due("corner 24", x.corner(Cases.ALL_24, 24), -1);
+        Cases.due("area", x.area(Cases.ALL_24), 438);
+        Cases.due("places", x.places(Cases.ALL_24), 232);
+        Cases.due("where", x.where(Cases.ALL_24, 8, 2), 2);
+        Cases.due("where", x.where(Cases.ALL_24, 9, 2), 0);
+        Cases.due("holds", x.holds(Cases.ALL_24), 1);
+        Cases.due("meet", x.meet(Cases.ALL_24, Cases.ALL_24), 1);
+    }
+
     // ---- 10: corner ----
 
     static void promise10Sets() {

@@ -68,6 +68,22 @@ public final class LoadBoundariesTest {
         tieIs(x, 0b001011, Cases.NO);
     }
 
+    static void promise17ThreeOnAnUprightLineOnASlope() {
+        tieIs(Cases.of("red 2 0, 2 3, 2 1, 2 5;"), 0b0111, -2, -1, 3, 0);
+        tieIs(Cases.of("red 2 5, 2 8, 2 6;"), 7, -2, -1, 3);
+        tieIs(Cases.of("red 2 -3, 2 5, 2 -8;"), 7, -13, 5, 8);
+        tieIs(Cases.of("red 1 -1, 7 8, 3 2;"), 7, -2, -1, 3);
+        tieIs(Cases.of("red 1 8, 7 -1, 3 5;"), 7, -2, -1, 3);
+        tieIs(Cases.of("red 1 8, 3 5, 7 -1;"), 7, 2, -3, 1);
+        tieIs(Cases.of("red 1 8, 3 5, 7 0;"), 7, Cases.NO, Cases.NO, Cases.NO);
+    }
+
+    static void promise17FourOfTheLeastArea() {
+        tieIs(Cases.of("red 0 0, 1 0, 0 1, 1 1;"), 15, 1, -1, -1, 1);
+        tieIs(Cases.of("red 0 0, 0 1, 1 0, 1 1;"), 15, 1, -1, -1, 1);
+        tieIs(Cases.of("red 0 0, 0 1, 1 0, 3 -5;"), 15, -3, 5, -3, 1);
+    }
+
     static void promise17FourAlwaysHaveOne() {
         tieIs(Cases.of("red 0 0, 1 2, 3 0, 3 1;"), 15, 2, -3, -5, 6);
         // A square's corners round about.
@@ -275,6 +291,26 @@ public final class LoadBoundariesTest {
         // Now the fourth has less.
         x.loads(3, 1);
         weightsAre(x, 1, 6, 13, 1, 13, 6, 13, 0, 1);
+    }
+
+    static void promise21TheFirstOneIsUsedUp() {
+        // The tie 1, -1, -1, 1.
+        RainbowHulls x = Cases.of("red 0 0 load 2; red 4 0 load 5; red 0 4 load 5; red 4 4 load 7;");
+        weightsAre(x, 1, 0, 1, 7, 19, 7, 19, 5, 19);
+        Cases.dueAll("left", x::left, 0b1111, 0b1110, -2);
+    }
+
+    static void promise21ByHowMuchOfEachIsTaken() {
+        // The tie 2, -3, -5, 6: 3 / 2 is less than 10 / 6, the same as 9 / 6, more than 8 / 6.
+        RainbowHulls x = Cases.of("red 0 0 load 3; red 1 2 load 1; red 3 0 load 1; red 3 1 load 10;");
+        Cases.dueAll("left, the first goes", x::left, 0b1111, 0b1110, -2);
+        weightsAre(x, 1, 0, 1, 11, 30, 17, 30, 1, 15);
+        x.loads(3, 9);
+        Cases.dueAll("left, both go", x::left, 0b1111, 0b0110, -2);
+        weightsAre(x, 1, 0, 1, 11, 28, 17, 28, 0, 1);
+        x.loads(3, 8);
+        Cases.dueAll("left, the fourth goes", x::left, 0b1111, 0b0111, -2);
+        weightsAre(x, 1, 1, 39, 5, 13, 23, 39, 0, 1);
     }
 
     static void promise21TheGreatestNumbers() {

@@ -126,6 +126,15 @@ public final class MeetingBoundariesTest {
         meetingIs(Cases.of("red -9 -9, 9 -9, 0 9; blue 1 1, 0 0, 0 -1;"), 0b000111, 0b111000, 0, -1, 1);
     }
 
+    static void promise31TheLeastByYOfBrokenPlaces() {
+        // On the square's left side from 3/2 to 7/2.
+        RainbowHulls x = Cases.of("red 0 0, 4 0, 4 4, 0 4; blue -3 1, 3 2, 3 6;");
+        meetingIs(x, 0b0001111, 0b1110000, 0, 3, 2);
+        // The same below 0.
+        RainbowHulls y = Cases.of("red 0 0, 4 0, 4 -4, 0 -4; blue -3 -1, 3 -2, 3 -6;");
+        meetingIs(y, 0b0001111, 0b1110000, 0, -7, 2);
+    }
+
     static void promise31OnOneLine() {
         RainbowHulls x = Cases.of("red 0 0, 6 0; blue 9 0, 2 0;");
         meetingIs(x, 3, 12, 2, 0, 1);
@@ -380,6 +389,19 @@ public final class MeetingBoundariesTest {
         metIs(Cases.of("red 0 0, 3 1, 0 2, 1 -1;"), 15, 2, 0, 3, 1, 5);
         metIs(Cases.of("red 0 0, 1 0, 0 -1, 1 1, 0 1, 1 2;"), 63, 3, 0, 1, 1, 2);
         metIs(Cases.of("red 0 0, 4 0, 4 4, 0 4;"), 15, 2, 0, 2, 2, 1);
+    }
+
+    static void promise35WhereTwoOfThreeCross() {
+        // (0, 0) (3, 1) and (0, 2) (1, -1) cross, a wide triangle is around them.
+        RainbowHulls firstThird = Cases.of("red 0 0, -20 -20, 20 -20, 0 20, 3 1, 0 2, 1 -1;");
+        Cases.dueAll("part(127, 3, 2, part)", p -> firstThird.part(127, 3, 2, p), 0b0010001, 0b0001110, 0b1100000);
+        metIs(firstThird, 127, 3, 2, 3, 1, 5);
+        RainbowHulls secondThird = Cases.of("red -20 -20, 20 -20, 0 20, 0 0, 3 1, 0 2, 1 -1;");
+        Cases.dueAll("part(127, 3, 0, part)", p -> secondThird.part(127, 3, 0, p), 0b0000111, 0b0011000, 0b1100000);
+        metIs(secondThird, 127, 3, 0, 3, 1, 5);
+        RainbowHulls firstSecond = Cases.of("red 0 0, 0 2, 3 1, 1 -1, -20 -20, 20 -20, 0 20;");
+        Cases.dueAll("part(127, 3, 1, part)", p -> firstSecond.part(127, 3, 1, p), 0b0000101, 0b0001010, 0b1110000);
+        metIs(firstSecond, 127, 3, 1, 3, 1, 5);
     }
 
     static void promise35TheLeastByXThenY() {

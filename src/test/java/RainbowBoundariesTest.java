@@ -61,6 +61,28 @@ public final class RainbowBoundariesTest {
         }
     }
 
+    static void promise23OnASidesLineBeyondItsEnd() {
+        // The third point is seen at a wide angle from there.
+        String[] three = {"0 0", "4 0", "-9 4"};
+        int[][] orders = {{0, 1, 2}, {0, 2, 1}, {1, 0, 2}, {1, 2, 0}, {2, 0, 1}, {2, 1, 0}};
+        for (int[] o : orders) {
+            String text = "red " + three[o[0]] + "; green " + three[o[1]] + "; blue " + three[o[2]] + ";";
+            Cases.due("-1 0 of " + text, Cases.of(text + "centre -1 0;").rainbows(), 0);
+            Cases.due("1 0 of " + text, Cases.of(text + "centre 1 0;").rainbows(), 1);
+        }
+    }
+
+    static void promise23JustBesideASide() {
+        // No place is nearer to the side's line than these.
+        String[] three = {"0 0", "2 1", "0 9"};
+        int[][] orders = {{0, 1, 2}, {0, 2, 1}, {1, 0, 2}, {1, 2, 0}, {2, 0, 1}, {2, 1, 0}};
+        for (int[] o : orders) {
+            String text = "red " + three[o[0]] + "; green " + three[o[1]] + "; blue " + three[o[2]] + ";";
+            Cases.due("1 0 of " + text, Cases.of(text + "centre 1 0;").rainbows(), 0);
+            Cases.due("1 1 of " + text, Cases.of(text + "centre 1 1;").rainbows(), 1);
+        }
+    }
+
     static void promise23OnOneLine() {
         RainbowHulls x = Cases.of("red 1 0; green 3 0; blue 5 0;");
         int[][] places = {{0, 0, 0}, {1, 0, 1}, {2, 0, 1}, {3, 0, 1}, {4, 0, 1}, {5, 0, 1}, {6, 0, 0}, {2, 1, 0}, {2, -1, 0}};
@@ -173,11 +195,38 @@ public final class RainbowBoundariesTest {
         mixtureIs("red 5 1; green 0 -20; blue 0 20;", 0, 1, 1, 2);
     }
 
+    static void promise25TwoOnAnUprightLineOnASlope() {
+        mixtureIs("red 0 -2; green 0 4; blue 9 9;", 2, 1, 0, 3);
+        mixtureIs("red 0 2; green 0 -1; blue 0 -5;", 1, 2, 0, 3);
+        mixtureIs("red -2 -4; green 1 2; blue 9 9;", 1, 2, 0, 3);
+        mixtureIs("red 2 -4; green 9 9; blue -1 2;", 1, 0, 2, 3);
+        mixtureIs("red 9 9; green 1 0; blue -1 0;", 0, 1, 1, 2);
+        mixtureIs("red 9 9; green 0 1; blue 0 -1;", 0, 1, 1, 2);
+        mixtureIs("red 3 -1; green 6 5; blue 19 0; centre 5 3;", 1, 2, 0, 3);
+        mixtureIs("red 1 0; green -1 0; blue 5 0;", 1, 1, 0, 2);
+        mixtureIs("red 0 -1; green 0 1; blue 0 5;", 1, 1, 0, 2);
+    }
+
+    static void promise25OneBehindAnotherOfTheSameObject() {
+        RainbowHulls x = Cases.of("red 4 0; green -1 1; blue -1 -1;");
+        Cases.dueAll("all three", w -> x.mixture(0, 1, 2, w), 1, 2, 2, 5);
+        x.moves(1, -4, 0);
+        Cases.dueAll("red, green", w -> x.mixture(0, 1, 2, w), 1, 1, 0, 2);
+        x.moves(0, 0, 0);
+        Cases.dueAll("red", w -> x.mixture(0, 1, 2, w), 1, 0, 0, 1);
+        x.moves(0, 9, -9);
+        Cases.dueAll("none", w -> x.mixture(0, 1, 2, w), Cases.NO, Cases.NO, Cases.NO, Cases.NO);
+        x.moves(2, 0, 0);
+        Cases.dueAll("blue", w -> x.mixture(0, 1, 2, w), 0, 0, 1, 1);
+    }
+
     static void promise25AllThree() {
         mixtureIs("red 4 0; green -1 1; blue -1 -1;", 1, 2, 2, 5);
         mixtureIs("red 4 0; green -1 -1; blue -1 1;", 1, 2, 2, 5);
         mixtureIs("red -20 -20; green 20 -20; blue 0 20;", 1, 1, 2, 4);
         mixtureIs("red 4 1; green -1 2; blue -1 0; centre 0 1;", 1, 2, 2, 5);
+        mixtureIs("red 7 0; green 2 1; blue 2 -1; centre 3 0;", 1, 2, 2, 5);
+        mixtureIs("red 0 -5; green -5 -4; blue -5 -6; centre -4 -5;", 1, 2, 2, 5);
     }
 
     // ---- 26: exchanges ----
@@ -210,6 +259,12 @@ public final class RainbowBoundariesTest {
         Cases.dueAll("12, less", w -> x.exchanges(0, 1, 3, w), 1, 0);
         x.moves(2, 5, 9);
         Cases.dueAll("20, more", w -> x.exchanges(0, 1, 3, w), 0, 0);
+    }
+
+    static void promise26FromTheLeastDistance() {
+        RainbowHulls x = Cases.of("red 1 0; green 2 1, -5 0; blue 2 -1;");
+        Cases.dueAll("exchanges", w -> x.exchanges(0, 1, 3, w), 1, 1);
+        Cases.dueAll("distance", k -> x.distance(0, 1, 3, k, 0), 1, 0, Cases.NO);
     }
 
     static void promise26TillItHoldsOrIsStuck() {
@@ -360,6 +415,26 @@ public final class RainbowBoundariesTest {
         Cases.dueAll("no blue", Cases.of("red 1 1; green 2 2;")::starts, 0, 0, -2);
         Cases.dueAll("no green", Cases.of("red 1 1; blue 2 2;")::starts, 0, 0, -2);
         Cases.dueAll("no red", Cases.of("green 1 1; blue 2 2;")::starts, 0, 0, -2);
+    }
+
+    static void promise29EachWhatAlone() {
+        Cases.due("starts(0)", sixExchanges().starts(0), 27);
+        Cases.due("starts(1)", sixExchanges().starts(1), 6);
+    }
+
+    static void promise29OnceMore() {
+        RainbowHulls x = sixExchanges();
+        Cases.dueAll("starts", x::starts, 27, 6);
+        Cases.dueAll("starts once more", x::starts, 27, 6);
+        x.removes(0);
+        x.removes(0);
+        x.removes(0);
+        Cases.dueAll("no red any more", x::starts, 0, 0);
+        RainbowHulls y = triangle();
+        y.centres(9, 9);
+        Cases.dueAll("stuck", y::starts, 1, 0);
+        y.centres(1, 1);
+        Cases.dueAll("held", y::starts, 0, 0);
     }
 
     static void promise29OneRainbow() {

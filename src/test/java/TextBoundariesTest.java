@@ -155,6 +155,24 @@ public final class TextBoundariesTest {
         Cases.due("count(1)", x.count(1), 1);
     }
 
+    static void promise03BytesBehindTheEndAreNone() {
+        // Each text is cut where a longer token went on.
+        cut("redred", 3, 1, 3);
+        cut("red 1 219", 7, 1, 7);
+        cut("red 1 1 loadload", 12, 1, 12);
+        cut("red 1 1;;", 8, 0, -1);
+        cut("red 1 1; ?", 9, 0, -1);
+        cut("red 1 1  ;", 8, 1, 8);
+    }
+
+    private static void cut(String text, int n, int fault, int place) {
+        RainbowHulls x = new RainbowHulls();
+        Cases.tape(x, text);
+        Cases.due("end", x.end(n), n);
+        Cases.due("points() of '" + text + "' cut at " + n, x.points(), fault == 0 ? 1 : -4);
+        Cases.dueAll("fault of '" + text + "' cut at " + n, x::fault, fault, place);
+    }
+
     static void promise03NotSoManyBytes() {
         RainbowHulls x = blank(20);
         Cases.due("end(20)", x.end(20), 20);
@@ -456,6 +474,18 @@ public final class TextBoundariesTest {
         faulty("rex 1 1;", 1, 0);
         faulty("blux 1 1;", 1, 0);
         faulty("Red 1 1;", 1, 0);
+        faulty("bed 1 1;", 1, 0);
+        faulty("rad 1 1;", 1, 0);
+        faulty("rreen 1 1;", 1, 0);
+        faulty("rlue 1 1;", 1, 0);
+        faulty("rentre 1 1;", 1, 0);
+        faulty("red 1 1 road 1;", 1, 8);
+    }
+
+    static void promise05WordsThatFillTheTape() {
+        faulty(Cases.repeat("", "a", 600, ""), 1, 0);
+        faulty(Cases.repeat("red 1 1 ", "l", 592, ""), 1, 8);
+        faulty(Cases.repeat("", " ", 597, "red"), 1, 600);
     }
 
     static void promise05WhatCanStandAtALinesStart() {
