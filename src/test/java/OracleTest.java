@@ -668,14 +668,47 @@ public final class OracleTest {
         return best;
     }
 
+    // ---- the object, of which the document promises 512 calls ----
+
+    static final int MOST_CALLS = 512;
+    /** What compareBasics calls at most. */
+    static final int BASIC_CALLS = 104;
+    static RainbowHulls object;
+    static int calls;
+
+    /** A new object, and nothing that is told of it. */
+    static void begin() {
+        object = new RainbowHulls();
+        calls = 0;
+        points = new ArrayList<>();
+        cx = 0;
+        cy = 0;
+    }
+
+    /** For one call; when all calls are used up, a new object in the same state takes the old one's place. */
+    static RainbowHulls x() {
+        if (calls >= MOST_CALLS) {
+            object = new RainbowHulls();
+            calls = 1;
+            object.centres(cx, cy);
+            for (int i = 0; i < points.size(); i++) {
+                int[] p = points.get(i);
+                object.adds(p[0], p[1], p[2]);
+                object.loads(i, p[3]);
+                calls += 2;
+            }
+        }
+        calls++;
+        return object;
+    }
+
     // ---- comparing ----
 
     static int pick(Random random, int low, int high) {
         return low + random.nextInt(high - low + 1);
     }
 
-    static void fill(RainbowHulls x, Random random) {
-        points.clear();
+    static void fill(Random random) {
         int most = random.nextInt(4) == 0 ? 24 : 9;
         int n = random.nextInt(most + 1);
         int[] reaches = {1, 2, 3, 5, 10, 20};
@@ -690,21 +723,21 @@ public final class OracleTest {
             int px = off ? pick(random, -reach, reach) : t * tiltX;
             int py = off ? pick(random, -reach, reach) : t * tiltY;
             int colour = random.nextInt(3);
-            due("adds", x.adds(px, py, colour), i);
+            due("adds", x().adds(px, py, colour), i);
             points.add(new int[] {px, py, colour, 0});
         }
         int loaded = random.nextInt(9);
         for (int i = 0; i < loaded && n > 0; i++) {
             int p = random.nextInt(n);
             int load = random.nextInt(3) == 0 ? 99 - random.nextInt(5) : random.nextInt(8);
-            due("loads", x.loads(p, load), points.get(p)[3]);
+            due("loads", x().loads(p, load), points.get(p)[3]);
             points.get(p)[3] = load;
         }
         int far = Math.min(20, reach + random.nextInt(3));
         cx = flat ? pick(random, -least, least) * tiltX : pick(random, -far, far);
         cy = flat ? tiltX == 0 ? pick(random, -far, far) : cx * tiltY / tiltX : pick(random, -far, far);
         cy = Math.max(-20, Math.min(20, cy));
-        due("centres", x.centres(cx, cy), cx == 0 && cy == 0 ? 0 : 1);
+        due("centres", x().centres(cx, cy), cx == 0 && cy == 0 ? 0 : 1);
         StringBuilder text = new StringBuilder("centre " + cx + " " + cy + ", points");
         for (int[] p : points) {
             text.append(" (").append(p[0]).append(' ').append(p[1]).append(' ').append(p[2]).append(' ')
@@ -727,77 +760,77 @@ public final class OracleTest {
         return set;
     }
 
-    static void compareBasics(RainbowHulls x) {
-        due("count(0)", x.count(0), points.size());
+    static void compareBasics() {
+        due("count(0)", x().count(0), points.size());
         int[] sets = new int[4];
         for (int i = 0; i < points.size(); i++) {
             int[] p = points.get(i);
             for (int w = 0; w < 4; w++) {
-                due("point(" + i + ", " + w + ")", x.point(i, w), p[w]);
+                due("point(" + i + ", " + w + ")", x().point(i, w), p[w]);
             }
             sets[p[2]] |= 1 << i;
             sets[3] |= p[3] > 0 ? 1 << i : 0;
         }
         for (int w = 0; w < 4; w++) {
-            due("count(" + (w + 1) + ")", x.count(w + 1), sets[w]);
+            due("count(" + (w + 1) + ")", x().count(w + 1), sets[w]);
         }
-        due("point(n, 0)", x.point(points.size(), 0), NO);
-        due("centre(0)", x.centre(0), cx);
-        due("centre(1)", x.centre(1), cy);
+        due("point(n, 0)", x().point(points.size(), 0), NO);
+        due("centre(0)", x().centre(0), cx);
+        due("centre(1)", x().centre(1), cy);
     }
 
-    static void compareHull(RainbowHulls x, Random random) {
+    static void compareHull(Random random) {
         int set = someSet(random, 10);
         String s = "(" + set + ", ";
         if (!isSet(set)) {
-            due("corners" + s, x.corners(set), -2);
-            due("corner" + s, x.corner(set, 0), -2);
-            due("area" + s, x.area(set), -2);
-            due("places" + s, x.places(set), -2);
-            due("where" + s, x.where(set, 0, 0), -2);
-            due("holds" + s, x.holds(set), -2);
-            due("nearest" + s, x.nearest(set, 0), NO);
-            due("line" + s, x.line(set, 0), NO);
-            due("tie" + s, x.tie(set, 0), NO);
-            due("radon" + s, x.radon(set, 0), NO);
+            due("corners" + s, x().corners(set), -2);
+            due("corner" + s, x().corner(set, 0), -2);
+            due("area" + s, x().area(set), -2);
+            due("places" + s, x().places(set), -2);
+            due("where" + s, x().where(set, 0, 0), -2);
+            due("holds" + s, x().holds(set), -2);
+            due("nearest" + s, x().nearest(set, 0), NO);
+            due("line" + s, x().line(set, 0), NO);
+            due("tie" + s, x().tie(set, 0), NO);
+            due("radon" + s, x().radon(set, 0), NO);
             return;
         }
         List<Integer> corners = cornersOf(set);
-        due("corners" + s, x.corners(set), corners.size());
+        due("corners" + s, x().corners(set), corners.size());
         for (int i = 0; i < corners.size(); i++) {
-            due("corner" + s + i, x.corner(set, i), corners.get(i));
+            due("corner" + s + i, x().corner(set, i), corners.get(i));
         }
-        due("corner" + s + "n", x.corner(set, corners.size()), NONE);
-        due("corner" + s + "-1", x.corner(set, -1), -2);
-        due("area" + s, x.area(set), areaOf(corners).up().longValueExact());
+        due("corner" + s + "n", x().corner(set, corners.size()), NONE);
+        due("corner" + s + "-1", x().corner(set, -1), -2);
+        due("area" + s, x().area(set), areaOf(corners).up().longValueExact());
         List<V> list = placesOf(set);
         int px = pick(random, -21, 21);
         int py = pick(random, -21, 21);
         for (int i = 0; i < 4; i++) {
-            due("where" + s + px + ", " + py, x.where(set, px, py), isXY(px, py) ? whereIs(set, V.of(px, py)) : -2);
+            due("where" + s + px + ", " + py, x().where(set, px, py), isXY(px, py) ? whereIs(set, V.of(px, py)) : -2);
             px = pick(random, -5, 5);
             py = pick(random, -5, 5);
         }
         boolean held = hullHolds(list, centre());
-        due("holds" + s, x.holds(set), held ? 1 : 0);
+        due("holds" + s, x().holds(set), held ? 1 : 0);
         V n = nearestOf(list, centre());
         Q square = squared(n.minus(centre()));
         long[] told = n.told();
         for (int w = 0; w < 3; w++) {
-            due("nearest" + s + w, x.nearest(set, w), told[w]);
+            due("nearest" + s + w, x().nearest(set, w), told[w]);
         }
-        due("nearest" + s + 3, x.nearest(set, 3), square.up().longValueExact());
-        due("nearest" + s + 4, x.nearest(set, 4), square.down().longValueExact());
-        due("nearest" + s + 5, x.nearest(set, 5), NO);
+        due("nearest" + s + 3, x().nearest(set, 3), square.up().longValueExact());
+        due("nearest" + s + 4, x().nearest(set, 4), square.down().longValueExact());
+        due("nearest" + s + 5, x().nearest(set, 5), NO);
         long[] way = held ? null : n.minus(centre()).direction();
-        due("line" + s + 0, x.line(set, 0), held ? NO : way[0]);
-        due("line" + s + 1, x.line(set, 1), held ? NO : way[1]);
-        due("line" + s + 2, x.line(set, 2), held ? NO : least(set, way[0], way[1]));
-        due("line" + s + 3, x.line(set, 3), NO);
-        compareTie(x, set);
+        due("line" + s + 0, x().line(set, 0), held ? NO : way[0]);
+        due("line" + s + 1, x().line(set, 1), held ? NO : way[1]);
+        due("line" + s + 2, x().line(set, 2), held ? NO : least(set, way[0], way[1]));
+        due("line" + s + 3, x().line(set, 3), NO);
+        compareTie(set);
     }
 
-    static void comparePlaces(RainbowHulls x, Random random) {
+    static void comparePlaces(Random random) {
         int set = someSet(random, 5);
         if (isSet(set)) {
             List<V> list = placesOf(set);
@@ -807,57 +840,57 @@ public final class OracleTest {
                     all += hullHolds(list, V.of(px, py)) ? 1 : 0;
                 }
             }
-            due("places(" + set + ")", x.places(set), all);
+            due("places(" + set + ")", x().places(set), all);
         }
     }
 
-    static void compareTie(RainbowHulls x, int set) {
+    static void compareTie(int set) {
         long[] l = tieOf(set);
         String s = "(" + set + ", ";
         for (int p = -1; p <= points.size(); p++) {
-            due("tie" + s + p, x.tie(set, p), l == null || !isPoint(p) ? NO : l[p]);
+            due("tie" + s + p, x().tie(set, p), l == null || !isPoint(p) ? NO : l[p]);
         }
         long[] told = l == null ? null : weighted(l, bits(l, 1)).told();
         for (int w = -1; w < 6; w++) {
             long want = l == null || w < 0 || w > 4 ? NO
                 : w == 0 ? bits(l, 1) : w == 1 ? bits(l, -1) : told[w - 2];
-            due("radon" + s + w, x.radon(set, w), want);
+            due("radon" + s + w, x().radon(set, w), want);
         }
     }
 
-    static void compareLoads(RainbowHulls x) {
+    static void compareLoads() {
         long[] l = loadRow();
         int set = bits(l, 1);
         long[] told = set == 0 ? null : weighted(l, set).told();
         for (int w = -1; w < 4; w++) {
-            due("balance(" + w + ")", x.balance(w), set == 0 || w < 0 || w > 2 ? NO : told[w]);
+            due("balance(" + w + ")", x().balance(w), set == 0 || w < 0 || w > 2 ? NO : told[w]);
         }
         if (set == 0 || Integer.bitCount(set) > 6) {
             int refusal = set == 0 ? -2 : -5;
-            due("steps()", x.steps(), refusal);
-            due("left(0)", x.left(0), refusal);
-            due("left(9)", x.left(9), refusal);
-            due("left(-1)", x.left(-1), -2);
-            due("weight(0, 0, 0)", x.weight(0, 0, 0), NO);
+            due("steps()", x().steps(), refusal);
+            due("left(0)", x().left(0), refusal);
+            due("left(9)", x().left(9), refusal);
+            due("left(-1)", x().left(-1), -2);
+            due("weight(0, 0, 0)", x().weight(0, 0, 0), NO);
             return;
         }
         List<Q[]> rows = reduction();
-        due("steps()", x.steps(), rows.size() - 1);
+        due("steps()", x().steps(), rows.size() - 1);
         for (int k = -1; k <= rows.size(); k++) {
             boolean there = k >= 0 && k < rows.size();
-            due("left(" + k + ")", x.left(k), there ? alive(rows.get(k)) : -2);
+            due("left(" + k + ")", x().left(k), there ? alive(rows.get(k)) : -2);
             for (int p = -1; p <= points.size(); p++) {
                 boolean known = there && isPoint(p);
                 String s = "weight(" + p + ", " + k + ", ";
-                due(s + "-1)", x.weight(p, k, -1), NO);
-                due(s + "0)", x.weight(p, k, 0), known ? rows.get(k)[p].up().longValueExact() : NO);
-                due(s + "1)", x.weight(p, k, 1), known ? rows.get(k)[p].down().longValueExact() : NO);
-                due(s + "2)", x.weight(p, k, 2), NO);
+                due(s + "-1)", x().weight(p, k, -1), NO);
+                due(s + "0)", x().weight(p, k, 0), known ? rows.get(k)[p].up().longValueExact() : NO);
+                due(s + "1)", x().weight(p, k, 1), known ? rows.get(k)[p].down().longValueExact() : NO);
+                due(s + "2)", x().weight(p, k, 2), NO);
             }
         }
     }
 
-    static void compareRainbows(RainbowHulls x) {
+    static void compareRainbows() {
         int held = 0;
         int stuck = 0;
         int longest = 0;
@@ -866,74 +899,74 @@ public final class OracleTest {
             boolean holds = hullHolds(placesOfThree(t), centre());
             if (holds) {
                 for (int c = 0; c < 3; c++) {
-                    due("rainbow(" + held + ", " + c + ")", x.rainbow(held, c), t[c]);
+                    due("rainbow(" + held + ", " + c + ")", x().rainbow(held, c), t[c]);
                 }
                 held++;
             }
             long[] mixed = holds ? mixtureAtCentre(t) : null;
             for (int w = -1; w < 5; w++) {
-                due("mixture" + s + w, x.mixture(t[0], t[1], t[2], w), !holds || w < 0 || w > 3 ? NO : mixed[w]);
+                due("mixture" + s + w, x().mixture(t[0], t[1], t[2], w), !holds || w < 0 || w > 3 ? NO : mixed[w]);
             }
             List<int[]> way = wayFrom(t[0], t[1], t[2]);
             int made = way.size() - 1;
             boolean last = hullHolds(placesOfThree(way.get(made)), centre());
-            due("exchanges" + s + 0, x.exchanges(t[0], t[1], t[2], 0), made);
-            due("exchanges" + s + 1, x.exchanges(t[0], t[1], t[2], 1), last ? 1 : 0);
-            due("exchanges" + s + 2, x.exchanges(t[0], t[1], t[2], 2), -2);
+            due("exchanges" + s + 0, x().exchanges(t[0], t[1], t[2], 0), made);
+            due("exchanges" + s + 1, x().exchanges(t[0], t[1], t[2], 1), last ? 1 : 0);
+            due("exchanges" + s + 2, x().exchanges(t[0], t[1], t[2], 2), -2);
             stuck += last ? 0 : 1;
             longest = Math.max(longest, made);
             for (int k = -1; k <= made + 1; k++) {
                 boolean there = k >= 0 && k <= made;
                 for (int w = -1; w < 5; w++) {
-                    due("exchanged" + s + k + ", " + w, x.exchanged(t[0], t[1], t[2], k, w),
+                    due("exchanged" + s + k + ", " + w, x().exchanged(t[0], t[1], t[2], k, w),
                         there && w >= 0 && w < 4 ? way.get(k)[w] : -2);
                 }
                 Q square = there ? squared(nearestOf(placesOfThree(way.get(k)), centre()).minus(centre())) : null;
-                due("distance" + s + k + ", 0", x.distance(t[0], t[1], t[2], k, 0),
+                due("distance" + s + k + ", 0", x().distance(t[0], t[1], t[2], k, 0),
                     there ? square.up().longValueExact() : NO);
-                due("distance" + s + k + ", 1", x.distance(t[0], t[1], t[2], k, 1),
+                due("distance" + s + k + ", 1", x().distance(t[0], t[1], t[2], k, 1),
                     there ? square.down().longValueExact() : NO);
-                due("distance" + s + k + ", 2", x.distance(t[0], t[1], t[2], k, 2), NO);
+                due("distance" + s + k + ", 2", x().distance(t[0], t[1], t[2], k, 2), NO);
             }
         }
-        due("rainbows()", x.rainbows(), held);
-        due("rainbow(n, 0)", x.rainbow(held, 0), NONE);
-        due("starts(0)", x.starts(0), stuck);
-        due("starts(1)", x.starts(1), longest);
+        due("rainbows()", x().rainbows(), held);
+        due("rainbow(n, 0)", x().rainbow(held, 0), NONE);
+        due("starts(0)", x().starts(0), stuck);
+        due("starts(1)", x().starts(1), longest);
     }
 
-    static void compareWrongRainbows(RainbowHulls x, Random random) {
+    static void compareWrongRainbows(Random random) {
         int r = pick(random, -1, points.size());
         int g = pick(random, -1, points.size());
         int b = pick(random, -1, points.size());
         if (!isRainbow(r, g, b)) {
             String s = "(" + r + ", " + g + ", " + b + ", ";
-            due("mixture" + s, x.mixture(r, g, b, 0), NO);
-            due("exchanges" + s, x.exchanges(r, g, b, 0), -2);
-            due("exchanged" + s, x.exchanged(r, g, b, 0, 0), -2);
-            due("distance" + s, x.distance(r, g, b, 0, 0), NO);
+            due("mixture" + s, x().mixture(r, g, b, 0), NO);
+            due("exchanges" + s, x().exchanges(r, g, b, 0), -2);
+            due("exchanged" + s, x().exchanged(r, g, b, 0, 0), -2);
+            due("distance" + s, x().distance(r, g, b, 0, 0), NO);
         }
     }
 
-    static void compareMeeting(RainbowHulls x, Random random) {
+    static void compareMeeting(Random random) {
         int one = someSet(random, 5);
         int two = someSet(random, 5);
         String s = "(" + one + ", " + two + ", ";
         if (!isSet(one) || !isSet(two)) {
-            due("meet" + s, x.meet(one, two), -2);
-            due("meeting" + s, x.meeting(one, two, 0), NO);
-            due("apart" + s, x.apart(one, two, 0), NO);
+            due("meet" + s, x().meet(one, two), -2);
+            due("meeting" + s, x().meeting(one, two, 0), NO);
+            due("apart" + s, x().apart(one, two, 0), NO);
             return;
         }
         V common = leastCommon(List.of(placesOf(one), placesOf(two)));
-        due("meet" + s, x.meet(one, two), common == null ? 0 : 1);
+        due("meet" + s, x().meet(one, two), common == null ? 0 : 1);
         long[] told = common == null ? null : common.told();
         for (int w = -1; w < 4; w++) {
-            due("meeting" + s + w, x.meeting(one, two, w), common == null || w < 0 || w > 2 ? NO : told[w]);
+            due("meeting" + s + w, x().meeting(one, two, w), common == null || w < 0 || w > 2 ? NO : told[w]);
         }
         if (common != null) {
             for (int w = -1; w < 6; w++) {
-                due("apart" + s + w, x.apart(one, two, w), NO);
+                due("apart" + s + w, x().apart(one, two, w), NO);
             }
             return;
         }
@@ -942,25 +975,25 @@ public final class OracleTest {
         long[] wants = {squared(way).up().longValueExact(), squared(way).down().longValueExact(), d[0], d[1],
             least(two, d[0], d[1])};
         for (int w = -1; w < 6; w++) {
-            due("apart" + s + w, x.apart(one, two, w), w < 0 || w > 4 ? NO : wants[w]);
+            due("apart" + s + w, x().apart(one, two, w), w < 0 || w > 4 ? NO : wants[w]);
         }
     }
 
-    static void comparePartings(RainbowHulls x, Random random, int most) {
+    static void comparePartings(Random random, int most) {
         int set = someSet(random, most);
         int r = random.nextInt(8) == 0 ? pick(random, 0, 4) : pick(random, 2, 3);
         String s = "(" + set + ", " + r + ", ";
         if (!isSet(set) || Integer.bitCount(set) > 7 || r < 2 || r > 3) {
-            due("partings" + s + 0, x.partings(set, r, 0), -2);
-            due("partings" + s + 1, x.partings(set, r, 1), -2);
-            due("part" + s + 0, x.part(set, r, 0, 0), -2);
-            due("met" + s + 0, x.met(set, r, 0, 0), NO);
+            due("partings" + s + 0, x().partings(set, r, 0), -2);
+            due("partings" + s + 1, x().partings(set, r, 1), -2);
+            due("part" + s + 0, x().part(set, r, 0, 0), -2);
+            due("met" + s + 0, x().met(set, r, 0, 0), NO);
             return;
         }
         List<Integer> list = members(set);
         List<int[]> rows = rowsOf(list.size(), r);
-        due("partings" + s + 1, x.partings(set, r, 1), rows.size());
-        due("partings" + s + 2, x.partings(set, r, 2), -2);
+        due("partings" + s + 1, x().partings(set, r, 1), rows.size());
+        due("partings" + s + 2, x().partings(set, r, 2), -2);
         int k = 0;
         for (int[] row : rows) {
             int[] parts = new int[r];
@@ -976,29 +1009,29 @@ public final class OracleTest {
                 continue;
             }
             for (int p = -1; p <= r; p++) {
-                due("part" + s + k + ", " + p, x.part(set, r, k, p), p < 0 || p >= r ? -2 : parts[p]);
+                due("part" + s + k + ", " + p, x().part(set, r, k, p), p < 0 || p >= r ? -2 : parts[p]);
             }
             long[] told = common.told();
             for (int w = -1; w < 4; w++) {
-                due("met" + s + k + ", " + w, x.met(set, r, k, w), w < 0 || w > 2 ? NO : told[w]);
+                due("met" + s + k + ", " + w, x().met(set, r, k, w), w < 0 || w > 2 ? NO : told[w]);
             }
             k++;
         }
-        due("partings" + s + 0, x.partings(set, r, 0), k);
-        due("part" + s + "n", x.part(set, r, k, 0), NONE);
-        due("part" + s + "-1", x.part(set, r, -1, 0), -2);
-        due("met" + s + "n", x.met(set, r, k, 0), NO);
-        due("met" + s + "-1", x.met(set, r, -1, 0), NO);
+        due("partings" + s + 0, x().partings(set, r, 0), k);
+        due("part" + s + "n", x().part(set, r, k, 0), NONE);
+        due("part" + s + "-1", x().part(set, r, -1, 0), -2);
+        due("met" + s + "n", x().met(set, r, k, 0), NO);
+        due("met" + s + "-1", x().met(set, r, -1, 0), NO);
     }
 
-    static void compareDepths(RainbowHulls x, Random random) {
+    static void compareDepths(Random random) {
         for (int i = 0; i < 5; i++) {
             int reach = i == 0 ? 21 : 4;
             int px = i == 1 ? cx : pick(random, -reach, reach);
             int py = i == 1 ? cy : pick(random, -reach, reach);
             String s = "(" + px + ", " + py + ", ";
-            due("depth" + s, x.depth(px, py), isXY(px, py) ? depthOf(px, py) : -2);
-            due("triangles" + s + 2, x.triangles(px, py, 2), -2);
+            due("depth" + s, x().depth(px, py), isXY(px, py) ? depthOf(px, py) : -2);
+            due("triangles" + s + 2, x().triangles(px, py, 2), -2);
             int all = isXY(px, py) ? 0 : -2;
             int mixed = all;
             for (int a = 0; a < points.size() && all >= 0; a++) {
@@ -1012,12 +1045,12 @@ public final class OracleTest {
                     }
                 }
             }
-            due("triangles" + s + 0, x.triangles(px, py, 0), all);
-            due("triangles" + s + 1, x.triangles(px, py, 1), mixed);
+            due("triangles" + s + 0, x().triangles(px, py, 0), all);
+            due("triangles" + s + 1, x().triangles(px, py, 1), mixed);
         }
     }
 
-    static void compareDeepest(RainbowHulls x) {
+    static void compareDeepest() {
         int best = -1;
         int bx = 0;
         int by = 0;
@@ -1032,15 +1065,15 @@ public final class OracleTest {
             }
         }
         boolean none = points.isEmpty();
-        due("deepest(0)", x.deepest(0), none ? NO : bx);
-        due("deepest(1)", x.deepest(1), none ? NO : by);
-        due("deepest(2)", x.deepest(2), none ? NO : best);
-        due("deepest(3)", x.deepest(3), NO);
+        due("deepest(0)", x().deepest(0), none ? NO : bx);
+        due("deepest(1)", x().deepest(1), none ? NO : by);
+        due("deepest(2)", x().deepest(2), none ? NO : best);
+        due("deepest(3)", x().deepest(3), NO);
     }
 
-    static void compareFrees(RainbowHulls x) {
+    static void compareFrees() {
         if (points.size() > 8) {
-            due("frees(0)", x.frees(0), depthOf(cx, cy));
+            due("frees(0)", x().frees(0), depthOf(cx, cy));
             return;
         }
         int all = (1 << points.size()) - 1;
@@ -1053,11 +1086,11 @@ public final class OracleTest {
                 }
             }
         }
-        due("frees(0)", x.frees(0), Integer.bitCount(best));
-        due("frees(1)", x.frees(1), best);
+        due("frees(0)", x().frees(0), Integer.bitCount(best));
+        due("frees(1)", x().frees(1), best);
     }
 
-    static void change(RainbowHulls x, Random random) {
+    static void change(Random random) {
         int p = pick(random, -1, points.size());
         int px = pick(random, -21, 21);
         int py = pick(random, -21, 21);
@@ -1067,13 +1100,13 @@ public final class OracleTest {
         switch (random.nextInt(6)) {
             case 0 -> {
                 boolean fine = isXY(px, py) && ink >= 0 && ink < 3;
-                due("adds", x.adds(px, py, ink), !fine ? -2 : points.size() == 24 ? -5 : points.size());
+                due("adds", x().adds(px, py, ink), !fine ? -2 : points.size() == 24 ? -5 : points.size());
                 if (fine && points.size() < 24) {
                     points.add(new int[] {px, py, ink, 0});
                 }
             }
             case 1 -> {
-                due("removes", x.removes(p), there ? points.size() - 1 : -2);
+                due("removes", x().removes(p), there ? points.size() - 1 : -2);
                 if (there) {
                     points.remove(p);
                 }
@@ -1081,37 +1114,37 @@ public final class OracleTest {
             case 2 -> {
                 boolean fine = there && isXY(px, py);
                 int elsewhere = fine && points.get(p)[0] == px && points.get(p)[1] == py ? 0 : 1;
-                due("moves", x.moves(p, px, py), fine ? elsewhere : -2);
+                due("moves", x().moves(p, px, py), fine ? elsewhere : -2);
                 if (fine) {
                     points.get(p)[0] = px;
                     points.get(p)[1] = py;
-                    due("moves", x.moves(p, px, py), 0);
+                    due("moves", x().moves(p, px, py), 0);
                 }
             }
             case 3 -> {
                 boolean fine = there && ink >= 0 && ink < 3;
-                due("paints", x.paints(p, ink), fine ? points.get(p)[2] : -2);
+                due("paints", x().paints(p, ink), fine ? points.get(p)[2] : -2);
                 if (fine) {
                     points.get(p)[2] = ink;
                 }
             }
             case 4 -> {
                 boolean fine = there && load >= 0 && load < 100;
-                due("loads", x.loads(p, load), fine ? points.get(p)[3] : -2);
+                due("loads", x().loads(p, load), fine ? points.get(p)[3] : -2);
                 if (fine) {
                     points.get(p)[3] = load;
                 }
             }
             default -> {
                 boolean fine = isXY(px, py);
-                due("centres", x.centres(px, py), !fine ? -2 : px == cx && py == cy ? 0 : 1);
+                due("centres", x().centres(px, py), !fine ? -2 : px == cx && py == cy ? 0 : 1);
                 if (fine) {
                     cx = px;
                     cy = py;
                 }
             }
         }
-        compareBasics(x);
+        compareBasics();
     }
 
     // ---- texts ----
@@ -1252,7 +1285,7 @@ public final class OracleTest {
         text.append(token);
     }
 
-    static void compareText(RainbowHulls x, Random random) {
+    static void compareText(Random random) {
         String text = someText(random);
         if (text.length() > 600) {
             text = text.substring(0, 600);
@@ -1266,16 +1299,60 @@ public final class OracleTest {
                 five[k / 4] = five[k / 4] << 8 | sign;
             }
             has += 20;
-            due("feed", x.feed(five[0], five[1], five[2], five[3], five[4]), has);
+            due("feed", x().feed(five[0], five[1], five[2], five[3], five[4]), has);
         }
-        due("end", x.end(text.length()), text.length());
-        due("count(5)", x.count(5), text.length());
+        due("end", x().end(text.length()), text.length());
+        due("count(5)", x().count(5), text.length());
         int[] fault = readText(text);
-        due("points()", x.points(), fault[0] == 0 ? points.size() : -4);
-        due("fault(0)", x.fault(0), fault[0]);
-        due("fault(1)", x.fault(1), fault[1]);
-        due("count(5)", x.count(5), 0);
-        compareBasics(x);
+        due("points()", x().points(), fault[0] == 0 ? points.size() : -4);
+        due("fault(0)", x().fault(0), fault[0]);
+        due("fault(1)", x().fault(1), fault[1]);
+        due("count(5)", x().count(5), 0);
+        compareBasics();
+    }
+
+    // ---- rounds ----
+
+    static void compareOneState(Random random, int round) {
+        begin();
+        fill(random);
+        compareBasics();
+        for (int i = 0; i < 4; i++) {
+            compareHull(random);
+            compareMeeting(random);
+            compareWrongRainbows(random);
+        }
+        compareLoads();
+        if (allRainbows().size() < 60 || round % 50 == 0) {
+            compareRainbows();
+        }
+        comparePartings(random, round % 20 == 0 ? 9 : 5);
+        compareDepths(random);
+        compareFrees();
+        if (round % 5 == 0) {
+            comparePlaces(random);
+            compareDeepest();
+        }
+    }
+
+    /** Changes of one object, as many as its calls suffice for: no other one takes its place here. */
+    static void compareChanges(Random random, int round) {
+        begin();
+        if (round % 2 == 0) {
+            fill(random);
+        }
+        state = "changes, round " + round;
+        while (calls + 2 + BASIC_CALLS <= MOST_CALLS) {
+            change(random);
+        }
+    }
+
+    /** Texts that one object reads, each behind the state that the one before it left. */
+    static void compareTexts(Random random) {
+        begin();
+        while (calls + 37 + BASIC_CALLS <= MOST_CALLS) {
+            compareText(random);
+        }
     }
 
     public static void main(String[] args) {
@@ -1283,38 +1360,11 @@ public final class OracleTest {
         int rounds = args.length > 1 ? Integer.parseInt(args[1]) : 400;
         Random random = new Random(seed);
         for (int round = 0; round < rounds; round++) {
-            RainbowHulls x = new RainbowHulls();
-            fill(x, random);
-            compareBasics(x);
-            for (int i = 0; i < 4; i++) {
-                compareHull(x, random);
-                compareMeeting(x, random);
-                compareWrongRainbows(x, random);
-            }
-            compareLoads(x);
-            if (allRainbows().size() < 60 || round % 50 == 0) {
-                compareRainbows(x);
-            }
-            comparePartings(x, random, round % 20 == 0 ? 9 : 5);
-            compareDepths(x, random);
-            compareFrees(x);
-            if (round % 5 == 0) {
-                comparePlaces(x, random);
-                compareDeepest(x);
-            }
+            compareOneState(random, round);
         }
-        for (int round = 0; round < 400; round++) {
-            RainbowHulls x = new RainbowHulls();
-            points = new ArrayList<>();
-            cx = 0;
-            cy = 0;
-            state = "changes, round " + round;
-            for (int i = 0; i < 100; i++) {
-                change(x, random);
-            }
-            for (int i = 0; i < 20; i++) {
-                compareText(x, random);
-            }
+        for (int round = 0; round < 1000; round++) {
+            compareChanges(random, round);
+            compareTexts(random);
         }
         System.out.println(wrong == 0 ? "all answers are as due" : wrong + " answers are not as due");
         if (wrong != 0) {

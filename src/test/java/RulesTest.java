@@ -1,22 +1,17 @@
-import java.io.IOException;
 import java.lang.management.ManagementFactory;
 import java.lang.reflect.Constructor;
 import java.lang.reflect.Field;
 import java.lang.reflect.InvocationTargetException;
 import java.lang.reflect.Method;
 import java.lang.reflect.Modifier;
-import java.nio.file.Files;
-import java.nio.file.Path;
 import java.util.ArrayList;
 import java.util.Arrays;
 import java.util.List;
 import java.util.Random;
 import java.util.Set;
 import java.util.TreeSet;
-import java.util.regex.Matcher;
-import java.util.regex.Pattern;
 
-/** The document's face and nothing else; the rules of the language that can be seen; no call throws, none makes objects. */
+/** The document's face and nothing else; no call throws, none makes objects. What the source must keep to: LanguageTest. */
 public final class RulesTest {
     private static final String FACE = """
         int feed(int, int, int, int, int)
@@ -133,43 +128,6 @@ public final class RulesTest {
         }
     }
 
-    private static void checkSource() throws IOException {
-        String source = Files.readString(Path.of("src/main/java/RainbowHulls.java"));
-        for (int i = 0; i < source.length(); i++) {
-            check(source.charAt(i) < 128, "a sign above 127 at " + i);
-        }
-        String code = source.replaceAll("(?s)/\\*.*?\\*/", "").replaceAll("//[^\n]*", "").replaceAll("\"[^\"\n]*\"", "\"\"");
-        String[] words = {"throw", "throws", "try", "catch", "synchronized", "assert", "import", "package", "native",
-            "volatile", "transient", "protected", "instanceof", "System", "Thread", "Exact", "float", "double", "->", "::"};
-        for (String word : words) {
-            String edge = Character.isLetter(word.charAt(0)) ? "\\b" : "";
-            check(!Pattern.compile(edge + word + edge).matcher(code).find(), "without " + word);
-        }
-        Matcher calls = Pattern.compile("\\b(Math|Integer|Long|Arrays)\\.(\\w+)").matcher(code);
-        Set<String> used = new TreeSet<>();
-        while (calls.find()) {
-            used.add(calls.group());
-        }
-        used.removeAll(Set.of("Math.min", "Math.max", "Math.abs", "Integer.bitCount", "Long.MIN_VALUE"));
-        check(used.isEmpty(), "no more of the library: " + used);
-        checkLengths(source);
-    }
-
-    /** A method begins with a brace behind a bracket, at four signs or eight; it ends with a brace there. */
-    private static void checkLengths(String source) {
-        String[] lines = source.split("\n");
-        for (int i = 0; i < lines.length; i++) {
-            Matcher m = Pattern.compile("^(    |        )\\S.*\\) \\{$").matcher(lines[i]);
-            if (m.find()) {
-                int end = i;
-                while (end < lines.length && !lines[end].equals(m.group(1) + "}")) {
-                    end++;
-                }
-                check(end - i < 60, "sixty lines: " + lines[i].trim());
-            }
-        }
-    }
-
     private static int someNumber(Random random) {
         int[] strange = {Integer.MIN_VALUE, Integer.MAX_VALUE, -1, 0, 1, 2, 3, 20, 21, -20, -21, 23, 24, 1 << 23, 1 << 24,
             (1 << 24) - 1, (1 << 25) - 1, -(1 << 24), 0x72656420, 0x3120323b};
@@ -235,28 +193,47 @@ public final class RulesTest {
         return x;
     }
 
+    /** A text of each kind of line, and each change. */
+    private static long changing(RainbowHulls x) {
+        long sum = x.feed(0x72656420, 0x312d322c, 0x3420356c, 0x6f616420, 0x393b2020);
+        sum += x.feed(0x63656e74, 0x72652031, 0x20313b20, 0x626c7565, 0x20332034) + x.end(40) + x.points() + x.fault(1);
+        sum += x.feed(0x72656420, 0x312d322c, 0x3420356c, 0x6f616420, 0x393b2020) + x.points() + x.count(4);
+        sum += x.adds(1, 2, 1) + x.adds(2, 2, 2) + x.moves(0, 3, 3) + x.paints(1, 2) + x.loads(1, 5) + x.centres(2, -2);
+        return sum + x.removes(3) + x.removes(2);
+    }
+
+    private static long bytesMade(com.sun.management.ThreadMXBean bean) {
+        return bean.getThreadAllocatedBytes(Thread.currentThread().getId());
+    }
+
     /** All calls of a run share one room: what a call makes must be nothing, what an object takes little. */
     private static void checkRoom() {
         com.sun.management.ThreadMXBean bean =
             (com.sun.management.ThreadMXBean) ManagementFactory.getThreadMXBean();
-        long id = Thread.currentThread().getId();
         RainbowHulls x = full();
         dearest(x);
-        long before = bean.getThreadAllocatedBytes(id);
-        for (int i = 0; i < 20; i++) {
+        long before = bytesMade(bean);
+        for (int i = 0; i < 12; i++) {
             dearest(x);
         }
-        long made = bean.getThreadAllocatedBytes(id) - before;
-        check(made < 4000, "twenty rounds of the dearest calls make nothing: " + made + " bytes");
-        before = bean.getThreadAllocatedBytes(id);
+        long made = bytesMade(bean) - before;
+        check(made < 2000, "twelve rounds of the dearest calls make nothing: " + made + " bytes");
+        x = full();
+        changing(x);
+        before = bytesMade(bean);
+        for (int i = 0; i < 20; i++) {
+            changing(x);
+        }
+        made = bytesMade(bean) - before;
+        check(made < 2000, "twenty rounds of texts and changes make nothing: " + made + " bytes");
+        before = bytesMade(bean);
         new RainbowHulls();
-        made = bean.getThreadAllocatedBytes(id) - before;
+        made = bytesMade(bean) - before;
         check(made < 16000, "an object takes little: " + made + " bytes");
     }
 
     public static void main(String[] args) throws Exception {
         checkFace();
-        checkSource();
         checkNothingThrows();
         checkRoom();
         System.out.println(wrong == 0 ? "all rules are kept" : wrong + " rules are not kept");
