@@ -43,6 +43,14 @@ public final class DepthBoundariesTest {
         Cases.due("beside", x.depth(20, -19), 0);
     }
 
+    static void promise36APlaceHasXAndY() {
+        RainbowHulls x = Cases.of("red 1 3;");
+        Cases.due("depth(1, 3)", x.depth(1, 3), 1);
+        Cases.due("depth(3, 1)", x.depth(3, 1), 0);
+        Cases.due("depth(1, 1)", x.depth(1, 1), 0);
+        Cases.due("depth(3, 3)", x.depth(3, 3), 0);
+    }
+
     static void promise36TheRimCounts() {
         RainbowHulls x = square();
         int[][] places = {{0, 0, 1}, {-1, 0, 0}, {2, 0, 1}, {2, -1, 0}, {2, 1, 1}, {2, 2, 2}, {1, 2, 1}, {1, 1, 1},
@@ -221,6 +229,19 @@ public final class DepthBoundariesTest {
         freesIs("red 0 0, 4 0, 4 4, 0 4; centre -1 0;", 0, 0);
         freesIs("red 1 0, 3 0; centre 4 0;", 0, 0);
         freesIs("red 1 1;", 0, 0);
+    }
+
+    static void promise39AnUnevenCentre() {
+        // A point is at the centre if both its x and its y are.
+        freesIs("red 3 3; centre 1 3;", 0, 0);
+        freesIs("red 1 1; centre 1 3;", 0, 0);
+        freesIs("red 3 3; centre 3 1;", 0, 0);
+        freesIs("red 3 1; centre 1 3;", 0, 0);
+        freesIs("red 1 3; centre 3 1;", 0, 0);
+        freesIs("red 3 3, 3 1; centre 3 1;", 1, 0b10);
+        freesIs("red 1 1, 1 3; centre 1 3;", 1, 0b10);
+        freesIs("red 1 1, 1 5; centre 1 3;", 1, 0b01);
+        freesIs("red 1 1, 5 1; centre 3 1;", 1, 0b01);
     }
 
     static void promise39TheRimHolds() {

@@ -1,3 +1,5 @@
+import java.util.ArrayList;
+import java.util.List;
 import java.util.function.BiFunction;
 
 /** The boundary cases of promises 9 to 16: hulls, what they hold, the nearest place, the line. */
@@ -148,6 +150,36 @@ public final class HullBoundariesTest {
     static void promise10Counterclockwise() {
         RainbowHulls x = Cases.of("red 0 0, 2 9, 9 2, 8 8;");
         Cases.dueAll("corner(15, i)", i -> x.corner(15, i), 0, 2, 3, 1, -1);
+    }
+
+    /** Points of each order of these places; then the corners' places, whichever points are there. */
+    private static void inEachOrder(String[] places, String want) {
+        int all = 1;
+        for (int i = 0; i < places.length; i++) {
+            all *= places.length - i;
+        }
+        for (int code = 0; code < all; code++) {
+            List<String> rest = new ArrayList<>(List.of(places));
+            StringBuilder text = new StringBuilder();
+            for (int i = 0, left = code; i < places.length; i++) {
+                text.append(i == 0 ? "red " : ", ").append(rest.remove(left % rest.size()));
+                left /= places.length - i;
+            }
+            RainbowHulls x = Cases.of(text + ";");
+            StringBuilder got = new StringBuilder();
+            int set = (1 << places.length) - 1;
+            for (int i = 0; i < x.corners(set); i++) {
+                int p = x.corner(set, i);
+                got.append('(').append(x.point(p, 0)).append(' ').append(x.point(p, 1)).append(')');
+            }
+            Cases.same(text.toString(), got.toString(), want);
+        }
+    }
+
+    static void promise10WhicheverComesFirst() {
+        inEachOrder(new String[] {"3 -1", "3 0", "3 2", "3 5"}, "(3 -1)(3 5)");
+        inEachOrder(new String[] {"0 3", "0 7", "0 1", "2 4", "2 0"}, "(0 1)(2 0)(2 4)(0 7)");
+        inEachOrder(new String[] {"-2 2", "1 -1", "1 1", "1 5", "0 0"}, "(-2 2)(1 -1)(1 5)");
     }
 
     // ---- 11: area ----

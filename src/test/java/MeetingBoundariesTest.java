@@ -29,6 +29,11 @@ public final class MeetingBoundariesTest {
         Cases.due(call + " at " + there + ": 1 if there is", answer.applyAsLong(there) == none ? 0 : 1, 1);
     }
 
+    /** Bits of points that there are do not help, if there is one more. */
+    private static void oneMore(String call, ToLongFunction<Integer> answer, long none, int there) {
+        Cases.dueAt(call, answer, none, there | 1 << 6, there | 1 << 24, there | 1 << 30, there | Cases.LOW);
+    }
+
     // ---- 30: meet ----
 
     static void promise30Sets() {
@@ -42,6 +47,12 @@ public final class MeetingBoundariesTest {
         Cases.due("the 24th", full.meet(1 << 23, 1 << 22), 1);
         Cases.due("a 25th", full.meet(1 << 24, 1), -2);
         Cases.due("a 25th", full.meet(1, 1 << 24), -2);
+    }
+
+    static void promise30SetsOfOneMore() {
+        RainbowHulls x = touching();
+        oneMore("meet(set, line)", set -> x.meet(set, LINE), -2, SQUARE);
+        oneMore("meet(square, set)", set -> x.meet(SQUARE, set), -2, LINE);
     }
 
     static void promise30TheRimMeets() {
@@ -102,6 +113,12 @@ public final class MeetingBoundariesTest {
         meetingIs(full, Cases.ALL_24, 1 << 24, Cases.NO, Cases.NO, Cases.NO);
     }
 
+    static void promise31SetsOfOneMore() {
+        RainbowHulls x = touching();
+        oneMore("meeting(set, line)", set -> x.meeting(set, LINE, 0), Cases.NO, SQUARE);
+        oneMore("meeting(square, set)", set -> x.meeting(SQUARE, set, 0), Cases.NO, LINE);
+    }
+
     static void promise31OtherWhats() {
         RainbowHulls x = touching();
         Cases.dueAt("meeting", w -> x.meeting(SQUARE, LINE, w), Cases.NO, -1, 3, 4, Cases.LOW, Cases.HIGH);
@@ -160,10 +177,43 @@ public final class MeetingBoundariesTest {
         meetingIs(Cases.of("red -20 -20, 20 19, 20 -20, -20 20;"), 3, 12, 20, -20, 79);
     }
 
+    static void promise31TheLeastIsWhereTwoSidesCross() {
+        // x + y = 5 and y = x / 2: the first side of one, the last of the other.
+        meetingIs(Cases.of("red 0 5, 5 0, 8 9; blue 0 0, 8 -4, 6 3;"), 7, 56, 10, 5, 3);
+        // y = (13 - x) / 4 and y = x - 2: the second side of one, the last of the other.
+        meetingIs(Cases.of("red 0 9, 1 3, 9 1; blue 0 -2, 7 -3, 6 4;"), 7, 56, 21, 11, 5);
+        // y = 10 - 2 x and y = (7 - x) / 2: the first side of one, the second of the other.
+        meetingIs(Cases.of("red 2 6, 5 0, 9 8; blue 0 0, 9 -1, 1 3;"), 7, 56, 13, 4, 3);
+    }
+
+    static void promise31NoCornerOfOneIsInTheOther() {
+        // A long one across a high one, whose left side x = (y - 9) / 18 has the long one's low side at y = 0.
+        RainbowHulls x = Cases.of("red -9 0, 9 0, 9 1; blue -1 -9, 1 -9, 0 9;");
+        Cases.due("meet", x.meet(7, 56), 1);
+        apartIs(x, 7, 56, Cases.NO, Cases.NO, Cases.NO, Cases.NO, Cases.NO);
+        meetingIs(x, 7, 56, -1, 0, 2);
+    }
+
     // ---- 32: apart ----
 
     private static void apartIs(RainbowHulls x, int set, int other, long... five) {
         Cases.dueAll("apart(" + set + ", " + other + ", what)", w -> x.apart(set, other, w), five);
+    }
+
+    static void promise32SetsOfOneMore() {
+        RainbowHulls x = parted();
+        oneMore("apart(set, line)", set -> x.apart(set, LINE, 0), Cases.NO, SQUARE);
+        oneMore("apart(square, set)", set -> x.apart(SQUARE, set, 0), Cases.NO, LINE);
+    }
+
+    static void promise32FromAnyCornerToASide() {
+        // The right corner, the upper one, the left one, the low one; the side is on the way.
+        apartIs(Cases.of("red 0 0, 4 1, 0 3; blue 6 -3, 6 5;"), 7, 24, 4, 1, 1, 0, 6);
+        apartIs(Cases.of("red 0 0, 3 0, 1 4; blue -3 6, 5 6;"), 7, 24, 4, 1, 0, 1, 6);
+        apartIs(Cases.of("red 0 1, 4 0, 4 3; blue -3 -3, -3 5;"), 7, 24, 9, 1, -1, 0, 3);
+        apartIs(Cases.of("red 0 4, 3 4, 1 0; blue -3 -2, 5 -2;"), 7, 24, 4, 1, 0, -1, 2);
+        // From 4 1 to x + 2 y = 16, 10/5 of 1, 2 away.
+        apartIs(Cases.of("red 0 0, 4 1, 0 1; blue 0 8, 16 0;"), 7, 24, 20, 1, 1, 2, 16);
     }
 
     static void promise32Sets() {

@@ -151,6 +151,27 @@ public final class RainbowBoundariesTest {
         Cases.dueAt("rainbow(9, colour)", c -> x.rainbow(9, c), -2, -1, 3);
     }
 
+    /** A centre whose x and y differ: neither may stand for the other. */
+    private static final int[][] UNEVEN = {{1, 3}, {3, 1}};
+
+    static void promise24OfAnUnevenCentre() {
+        RainbowHulls x = triangle();
+        for (int[] p : UNEVEN) {
+            x.centres(p[0], p[1]);
+            Cases.dueAll("rainbow(0, colour) at " + p[0] + " " + p[1], c -> x.rainbow(0, c), 0, 1, 2, -2);
+            Cases.dueAll("rainbow(1, colour) at " + p[0] + " " + p[1], c -> x.rainbow(1, c), -1, -1, -1, -2);
+        }
+        RainbowHulls long5 = Cases.of("red 0 0; green 9 0; blue 0 3; centre 5 1;");
+        Cases.due("rainbow(0, 1) at 5 1", long5.rainbow(0, 1), 1);
+        long5.centres(1, 5);
+        Cases.due("rainbow(0, 1) at 1 5", long5.rainbow(0, 1), -1);
+        // The hull holds 1 1, but neither of these.
+        x.centres(1, 4);
+        Cases.due("rainbow(0, 0) at 1 4", x.rainbow(0, 0), -1);
+        x.centres(4, 1);
+        Cases.due("rainbow(0, 0) at 4 1", x.rainbow(0, 0), -1);
+    }
+
     // ---- 25: mixture ----
 
     private static void mixtureIs(String text, long... four) {
@@ -207,6 +228,26 @@ public final class RainbowBoundariesTest {
         mixtureIs("red 0 -1; green 0 1; blue 0 5;", 1, 1, 0, 2);
     }
 
+    static void promise25OneOfThemAtAnUnevenCentre() {
+        for (int[] p : UNEVEN) {
+            String centre = "centre " + p[0] + " " + p[1] + ";";
+            String there = p[0] + " " + p[1];
+            mixtureIs("red " + there + "; green 3 3; blue 1 1;" + centre, 1, 0, 0, 1);
+            mixtureIs("red 3 3; green " + there + "; blue 1 1;" + centre, 0, 1, 0, 1);
+            mixtureIs("red 1 1; green 3 3; blue " + there + ";" + centre, 0, 0, 1, 1);
+        }
+    }
+
+    static void promise25TwoOfThemAtAnUnevenCentre() {
+        // 1 3 is a third of the way from 0 2 to 3 5, 3 1 from 2 0 to 5 3.
+        for (String[] ends : new String[][] {{"0 2", "3 5", "1 3"}, {"2 0", "5 3", "3 1"}}) {
+            String centre = "centre " + ends[2] + ";";
+            mixtureIs("red " + ends[0] + "; green " + ends[1] + "; blue 9 9;" + centre, 2, 1, 0, 3);
+            mixtureIs("red " + ends[1] + "; green 9 9; blue " + ends[0] + ";" + centre, 1, 0, 2, 3);
+            mixtureIs("red 9 9; green " + ends[0] + "; blue " + ends[1] + ";" + centre, 0, 2, 1, 3);
+        }
+    }
+
     static void promise25OneBehindAnotherOfTheSameObject() {
         RainbowHulls x = Cases.of("red 4 0; green -1 1; blue -1 -1;");
         Cases.dueAll("all three", w -> x.mixture(0, 1, 2, w), 1, 2, 2, 5);
@@ -251,6 +292,17 @@ public final class RainbowBoundariesTest {
         }
     }
 
+    static void promise26HoldsAnUnevenCentreAtOnce() {
+        RainbowHulls x = triangle();
+        for (int[] p : UNEVEN) {
+            x.centres(p[0], p[1]);
+            Cases.dueAll("exchanges at " + p[0] + " " + p[1], w -> x.exchanges(0, 1, 2, w), 0, 1);
+            Cases.dueAll("exchanged at " + p[0] + " " + p[1], w -> x.exchanged(0, 1, 2, 0, w), 0, 1, 2, -1);
+            Cases.dueAll("distance at " + p[0] + " " + p[1], w -> x.distance(0, 1, 2, 0, w), 0, 1);
+            Cases.dueAll("starts at " + p[0] + " " + p[1], x::starts, 0, 0);
+        }
+    }
+
     static void promise26StuckIfNotLess() {
         // Red at (4, 0) is nearest, green goes; 16 is its own product.
         RainbowHulls x = Cases.of("red 4 0; green 4 4, 4 9; blue 4 -4;");
@@ -259,6 +311,86 @@ public final class RainbowBoundariesTest {
         Cases.dueAll("12, less", w -> x.exchanges(0, 1, 3, w), 1, 0);
         x.moves(2, 5, 9);
         Cases.dueAll("20, more", w -> x.exchanges(0, 1, 3, w), 0, 0);
+    }
+
+    static void promise26StuckIfNotLessOnASlope() {
+        // Red is nearest, green goes; 5 is red's own product.
+        RainbowHulls flat = Cases.of("red 2 1; green 4 2, 1 3; blue 3 0;");
+        Cases.dueAll("5, the same", w -> flat.exchanges(0, 1, 3, w), 0, 0);
+        flat.moves(2, 1, 2);
+        Cases.dueAll("4, less", w -> flat.exchanges(0, 1, 3, w), 1, 0);
+        RainbowHulls steep = Cases.of("red 1 2; green 2 4, 3 1; blue 0 3;");
+        Cases.dueAll("5, the same", w -> steep.exchanges(0, 1, 3, w), 0, 0);
+        steep.moves(2, 2, 1);
+        Cases.dueAll("4, less", w -> steep.exchanges(0, 1, 3, w), 1, 0);
+    }
+
+    static void promise26StuckIfNotLessThanABrokenPlace() {
+        // The nearest place lies on x + 3 y = 3, at 3/10 of 1, 3; blue goes.
+        RainbowHulls x = Cases.of("red 3 0; green 0 1; blue 6 0, -3 2;");
+        Cases.dueAll("3, the same", w -> x.exchanges(0, 1, 2, w), 0, 0);
+        x.moves(3, -4, 2);
+        Cases.dueAll("2, less", w -> x.exchanges(0, 1, 2, w), 1, 0);
+        RainbowHulls y = Cases.of("red 0 3; green 1 0; blue 0 6, 2 -3;");
+        Cases.dueAll("3, the same", w -> y.exchanges(0, 1, 2, w), 0, 0);
+        y.moves(3, 2, -4);
+        Cases.dueAll("2, less", w -> y.exchanges(0, 1, 2, w), 1, 0);
+    }
+
+    /** All that can be asked of the ways from each rainbow. */
+    private static String ways(RainbowHulls x) {
+        StringBuilder told = new StringBuilder();
+        for (int red = 0; red < 3; red++) {
+            for (int blue = 6; blue < 9; blue++) {
+                int made = x.exchanges(red, 4, blue, 0);
+                told.append(made).append(x.exchanges(red, 4, blue, 1)).append(':');
+                for (int what = 0; what < 4; what++) {
+                    told.append(' ').append(x.exchanged(red, 4, blue, made, what));
+                }
+                told.append(' ').append(x.distance(red, 4, blue, made, 0)).append('/');
+                told.append(x.distance(red, 4, blue, made, 1)).append("; ");
+            }
+        }
+        return told.append(x.starts(0)).append(' ').append(x.starts(1)).toString();
+    }
+
+    private static void moveAll(RainbowHulls x, int dx, int dy) {
+        for (int p = 0; p < x.count(0); p++) {
+            x.moves(p, (int) x.point(p, 0) + dx, (int) x.point(p, 1) + dy);
+        }
+        x.centres((int) x.centre(0) + dx, (int) x.centre(1) + dy);
+    }
+
+    private static void turnOver(RainbowHulls x) {
+        for (int p = 0; p < x.count(0); p++) {
+            x.moves(p, (int) x.point(p, 1), (int) x.point(p, 0));
+        }
+        x.centres((int) x.centre(1), (int) x.centre(0));
+    }
+
+    static void promise26TheSameElsewhere() {
+        int[][] ways = {{8, -8}, {-8, 3}, {0, 7}, {5, 0}};
+        for (int[] w : ways) {
+            RainbowHulls held = fourExchanges();
+            moveAll(held, w[0], w[1]);
+            Cases.same("going " + w[0] + " " + w[1], ways(held), ways(fourExchanges()));
+            RainbowHulls stuck = sixExchanges();
+            moveAll(stuck, w[0], w[1]);
+            Cases.same("going " + w[0] + " " + w[1], ways(stuck), ways(sixExchanges()));
+        }
+    }
+
+    static void promise26TheSameTurnedOver() {
+        for (int[] w : new int[][] {{8, -8}, {-8, 3}}) {
+            RainbowHulls held = fourExchanges();
+            moveAll(held, w[0], w[1]);
+            turnOver(held);
+            Cases.same("x and y exchanged", ways(held), ways(fourExchanges()));
+            RainbowHulls stuck = sixExchanges();
+            moveAll(stuck, w[0], w[1]);
+            turnOver(stuck);
+            Cases.same("x and y exchanged", ways(stuck), ways(sixExchanges()));
+        }
     }
 
     static void promise26FromTheLeastDistance() {
